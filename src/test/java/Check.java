@@ -66,6 +66,26 @@ final class Check {
         }
     }
 
+    static MeasureChoice house(int... costsAndGains) {
+        MeasureChoice x = new MeasureChoice();
+        for (int i = 0; i < costsAndGains.length; i += 2) {
+            x.measure(costsAndGains[i], costsAndGains[i + 1]);
+        }
+        return x;
+    }
+
+    /** Twelve measures, with the highest cost, gain and bonus everywhere. */
+    static MeasureChoice greatestHouse() {
+        MeasureChoice x = new MeasureChoice();
+        for (int m = 0; m < 12; m++) {
+            x.measure(10000, 10000);
+            for (int other = 0; other < m; other++) {
+                x.bonus(m, other, 5000);
+            }
+        }
+        return x;
+    }
+
     static void end() {
         System.out.println(wrong == 0 ? "all answers are as due" : wrong + " answers are not as due");
         if (wrong != 0) {

@@ -15,15 +15,8 @@ public final class PlansTest {
         badYearsForGoodOnes();
         atTheEdges();
         followsChanges();
+        plannedAlone();
         Check.end();
-    }
-
-    private static MeasureChoice of(int... costsAndGains) {
-        MeasureChoice x = new MeasureChoice();
-        for (int i = 0; i < costsAndGains.length; i += 2) {
-            x.measure(costsAndGains[i], costsAndGains[i + 1]);
-        }
-        return x;
     }
 
     private static void budgets(MeasureChoice x, int... budgets) {
@@ -62,7 +55,7 @@ public final class PlansTest {
     }
 
     private static void wrongYears() {
-        MeasureChoice x = of(1, 1);
+        MeasureChoice x = Check.house(1, 1);
         for (int years : new int[] {LEAST, -1, 0, 5, MOST}) {
             Check.illegalArgument("plan(" + years + ", 0)", () -> x.plan(years, 0));
             Check.illegalArgument("planned(" + years + ")", () -> x.planned(years));
@@ -77,7 +70,7 @@ public final class PlansTest {
     }
 
     private static void whatIsLeftIsKept() {
-        MeasureChoice x = of(10, 20, 25, 30);
+        MeasureChoice x = Check.house(10, 20, 25, 30);
         budgets(x, 12, 12, 10, 1);
         plan("kept", x, 20, 1);
         plan("kept", x, 40, 1, 1);
@@ -89,7 +82,7 @@ public final class PlansTest {
     }
 
     private static void laterYearsCount() {
-        MeasureChoice x = of(10, 20, 20, 50);
+        MeasureChoice x = Check.house(10, 20, 20, 50);
         budgets(x, 10, 10, 0, 0);
         plan("at once", x, 20, 1);
         plan("to wait gains more", x, 50, 0, 2);
@@ -100,7 +93,7 @@ public final class PlansTest {
     }
 
     private static void spendsLeast() {
-        MeasureChoice x = of(9, 10, 8, 10, 3, 0);
+        MeasureChoice x = Check.house(9, 10, 8, 10, 3, 0);
         x.exclude(0, 1, true);
         budgets(x, 100, 0);
         plan("the cheaper one, and nothing for nothing", x, 20, 2, 2);
@@ -110,17 +103,17 @@ public final class PlansTest {
     }
 
     private static void leastSets() {
-        MeasureChoice x = of(10, 5, 10, 5, 10, 5);
+        MeasureChoice x = Check.house(10, 5, 10, 5, 10, 5);
         budgets(x, 10, 10, 0, 10);
         plan("of equal ones the least", x, 5, 1);
         plan("of equal ones the least", x, 15, 1, 3);
         plan("of equal ones the least", x, 25, 1, 3, 3);
         plan("of equal ones the least", x, 40, 1, 3, 3, 7);
-        MeasureChoice y = of(5, 0, 5, 10, 5, 5, 5, 5);
+        MeasureChoice y = Check.house(5, 0, 5, 10, 5, 5, 5, 5);
         budgets(y, 10, 5);
         y.needs(1, 0, true);
         plan("the first year's set before the second one's", y, 25, 3, 7);
-        MeasureChoice z = of(10, 0, 10, 10);
+        MeasureChoice z = Check.house(10, 0, 10, 10);
         z.bonus(0, 1, 10);
         z.needs(1, 0, true);
         budgets(z, 10, 10);
@@ -128,7 +121,7 @@ public final class PlansTest {
     }
 
     private static void lawfulEachYear() {
-        MeasureChoice x = of(10, 30, 10, 1, 5, 20);
+        MeasureChoice x = Check.house(10, 30, 10, 1, 5, 20);
         budgets(x, 10, 10, 0, 100);
         x.needs(0, 1, true);
         x.exclude(0, 2, true);
@@ -143,7 +136,7 @@ public final class PlansTest {
     }
 
     private static void firstSixAlone() {
-        MeasureChoice x = of(1, 1, 1, 1, 1, 1, 1, 1, 1, 1, 1, 1);
+        MeasureChoice x = Check.house(1, 1, 1, 1, 1, 1, 1, 1, 1, 1, 1, 1);
         budgets(x, 100000, 0, 0, 0);
         plan("six", x, 24, 63, 63, 63, 63);
         x.measure(1, 10000);
@@ -158,11 +151,11 @@ public final class PlansTest {
     }
 
     private static void badYearsForGoodOnes() {
-        MeasureChoice x = of(10, 0, 10, 100);
+        MeasureChoice x = Check.house(10, 0, 10, 100);
         x.bonus(0, 1, 50);
         budgets(x, 10, 0, 10, 0);
         plan("the better one first", x, 500, 2, 2, 3, 3);
-        MeasureChoice y = of(10, 10, 10, 10, 10, 100);
+        MeasureChoice y = Check.house(10, 10, 10, 10, 10, 100);
         y.bonus(0, 1, -40);
         y.bonus(0, 2, -5);
         y.bonus(1, 2, 0);
@@ -171,17 +164,14 @@ public final class PlansTest {
     }
 
     private static void atTheEdges() {
-        MeasureChoice x = new MeasureChoice();
-        for (int m = 0; m < 12; m++) {
-            x.measure(10000, 10000);
-            for (int other = 0; other < m; other++) {
-                x.bonus(m, other, 5000);
-            }
-        }
+        MeasureChoice x = Check.greatestHouse();
         budgets(x, 59999, 1, 100000, 100000);
         plan("all but one, then all", x, 505000, 31, 63, 63, 63);
         budgets(x, 100000, 100000, 100000, 100000);
         plan("the most of all", x, 540000, 63, 63, 63, 63);
+        x.exclude(0, 1, true);
+        plan("no purse pays what is excluded", x, 400000, 61, 61, 61, 61);
+        x.exclude(0, 1, false);
         for (int m = 0; m < 12; m++) {
             x.change(m, 1, 0);
             for (int other = 0; other < m; other++) {
@@ -192,7 +182,7 @@ public final class PlansTest {
     }
 
     private static void followsChanges() {
-        MeasureChoice x = of(10, 5, 10, 4);
+        MeasureChoice x = Check.house(10, 5, 10, 4);
         budgets(x, 10, 10);
         plan("at first", x, 14, 1, 3);
         x.change(1, 10, 6);
@@ -206,5 +196,16 @@ public final class PlansTest {
         plan("after needs", x, 10, 1, 1);
         x.year(0, 9);
         plan("after year", x, 5, 0, 1);
+    }
+
+    private static void plannedAlone() {
+        MeasureChoice x = Check.house(10, 5, 10, 4);
+        budgets(x, 10, 10);
+        Check.same("planned(2) before any plan", x.planned(2), 14);
+        Check.same("planned(1) after planned(2)", x.planned(1), 5);
+        x.change(0, 10, 3);
+        Check.same("planned(2) after a change", x.planned(2), 11);
+        Check.same("plan(1, 0) after planned(2)", x.plan(1, 0), 2);
+        Check.same("planned(3) after plan(1, 0)", x.planned(3), 18);
     }
 }

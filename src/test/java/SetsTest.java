@@ -21,16 +21,8 @@ public final class SetsTest {
         Check.end();
     }
 
-    private static MeasureChoice of(int... costsAndGains) {
-        MeasureChoice x = new MeasureChoice();
-        for (int i = 0; i < costsAndGains.length; i += 2) {
-            x.measure(costsAndGains[i], costsAndGains[i + 1]);
-        }
-        return x;
-    }
-
     private static void lawful() {
-        MeasureChoice x = of(1, 1, 1, 1, 1, 1, 1, 1);
+        MeasureChoice x = Check.house(1, 1, 1, 1, 1, 1, 1, 1);
         Check.holds("lawful(0)", x.lawful(0));
         Check.holds("lawful(15)", x.lawful(15));
         x.exclude(0, 3, true);
@@ -58,7 +50,7 @@ public final class SetsTest {
     }
 
     private static void told() {
-        MeasureChoice x = of(10, 20, 5, 10, 3, 4);
+        MeasureChoice x = Check.house(10, 20, 5, 10, 3, 4);
         x.bonus(0, 2, 6);
         Check.same("told(0, 0)", x.told(0, 0), 0);
         Check.same("told(0, 1)", x.told(0, 1), 0);
@@ -81,13 +73,7 @@ public final class SetsTest {
     }
 
     private static void toldAtTheEdges() {
-        MeasureChoice x = new MeasureChoice();
-        for (int m = 0; m < 12; m++) {
-            x.measure(10000, 10000);
-            for (int other = 0; other < m; other++) {
-                x.bonus(m, other, 5000);
-            }
-        }
+        MeasureChoice x = Check.greatestHouse();
         Check.same("the dearest set", x.told(4095, 0), 120000);
         Check.same("the most gain", x.told(4095, 1), 450000);
         Check.same("best(119999) leaves the last", x.best(119999), 2047);
@@ -100,7 +86,7 @@ public final class SetsTest {
     }
 
     private static void closure() {
-        MeasureChoice x = of(1, 1, 1, 1, 1, 1, 1, 1, 1, 1);
+        MeasureChoice x = Check.house(1, 1, 1, 1, 1, 1, 1, 1, 1, 1);
         Check.same("closure(0) alone", x.closure(0), 1);
         x.needs(0, 1, true);
         x.needs(1, 2, true);
@@ -136,7 +122,7 @@ public final class SetsTest {
     }
 
     private static void best() {
-        MeasureChoice x = of(10, 20, 5, 10, 3, 0, 7, 7);
+        MeasureChoice x = Check.house(10, 20, 5, 10, 3, 0, 7, 7);
         Check.same("best(0)", x.best(0), 0);
         Check.same("best(4)", x.best(4), 0);
         Check.same("best(5)", x.best(5), 2);
@@ -157,7 +143,7 @@ public final class SetsTest {
     }
 
     private static void bestOfEqualSets() {
-        MeasureChoice x = of(6, 10, 5, 10, 5, 10);
+        MeasureChoice x = Check.house(6, 10, 5, 10, 5, 10);
         Check.same("of equal gain the cheapest", x.best(6), 2);
         Check.same("of equal cost the least number", x.best(10), 6);
         x.change(0, 5, 10);
@@ -166,7 +152,7 @@ public final class SetsTest {
     }
 
     private static void budget() {
-        MeasureChoice x = of(10, 20, 5, 10, 3, 0, 7, 7);
+        MeasureChoice x = Check.house(10, 20, 5, 10, 3, 0, 7, 7);
         Check.same("budget(0)", x.budget(0), 0);
         Check.same("budget(-1)", x.budget(-1), 0);
         Check.same("budget(MIN)", x.budget(LEAST), 0);
@@ -184,7 +170,7 @@ public final class SetsTest {
     }
 
     private static void worth() {
-        MeasureChoice x = of(10, 20, 5, 10, 3, 0, 7, 7);
+        MeasureChoice x = Check.house(10, 20, 5, 10, 3, 0, 7, 7);
         Check.same("worth(0, 0)", x.worth(0, 0), 0);
         Check.same("worth(0, 4)", x.worth(0, 4), 0);
         Check.same("worth(0, 5)", x.worth(0, 5), 10);
@@ -208,7 +194,7 @@ public final class SetsTest {
     }
 
     private static void frontier() {
-        MeasureChoice x = of(10, 20, 5, 10, 3, 0, 7, 7);
+        MeasureChoice x = Check.house(10, 20, 5, 10, 3, 0, 7, 7);
         int[] due = {0, 2, 1, 3, 11, NONE, NONE};
         for (int k = 0; k < due.length; k++) {
             Check.same("frontier(" + k + ")", x.frontier(k), due[k]);
@@ -226,7 +212,7 @@ public final class SetsTest {
     }
 
     private static void frontierOfEqualSets() {
-        MeasureChoice x = of(5, 9, 5, 10, 5, 10, 6, 10);
+        MeasureChoice x = Check.house(5, 9, 5, 10, 5, 10, 6, 10);
         Check.same("of equal cost the one that gains more, of these the least", x.frontier(1), 2);
         Check.same("of equal pairs the least", x.frontier(2), 6);
         Check.same("of equal triples the one that gains most", x.frontier(3), 7);
@@ -250,7 +236,7 @@ public final class SetsTest {
     }
 
     private static void gainsBelowZero() {
-        MeasureChoice x = of(5, 10, 5, 10);
+        MeasureChoice x = Check.house(5, 10, 5, 10);
         x.bonus(0, 1, -5000);
         x.needs(0, 1, true);
         x.needs(1, 0, true);
