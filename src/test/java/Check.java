@@ -14,15 +14,56 @@ final class Check {
         long ask();
     }
 
+    private static final long MOST_MILLISECONDS = 300000;
+
     private static int wrong = 0;
+    private static String sentence = "";
+
+    // A call that does not end would otherwise hold the whole run of tests up for ever.
+    static {
+        Thread guard = new Thread(Check::endLate);
+        guard.setDaemon(true);
+        guard.start();
+    }
 
     private Check() {
     }
 
+    private static void endLate() {
+        try {
+            Thread.sleep(MOST_MILLISECONDS);
+        } catch (InterruptedException e) {
+            return;
+        }
+        System.out.println(sentence + "a call does not end");
+        Runtime.getRuntime().halt(1);
+    }
+
+    /** The test of one sentence of the document; what it throws is its own fault alone. */
+    static void sentence(String words, Call test) {
+        sentence = "'" + words + "': ";
+        try {
+            test.run();
+        } catch (RuntimeException e) {
+            tell("threw " + e);
+        }
+        sentence = "";
+    }
+
+    private static void tell(String fault) {
+        wrong++;
+        System.out.println(sentence + fault);
+    }
+
     static void same(String call, long got, long due) {
         if (got != due) {
-            wrong++;
-            System.out.println(call + " answered " + got + ", due is " + due);
+            tell(call + " answered " + got + ", due is " + due);
+        }
+    }
+
+    static void same(String name, String got, String due) {
+        if (!got.equals(due)) {
+            tell(name + " is" + System.lineSeparator() + got + ", due is" + System.lineSeparator() + due);
         }
     }
 
@@ -51,8 +92,7 @@ final class Check {
             thrown = e.getClass();
         }
         if (thrown != due) {
-            wrong++;
-            System.out.println(call + " threw " + thrown + ", due is " + due);
+            tell(call + " threw " + thrown + ", due is " + due);
         }
     }
 
@@ -74,6 +114,14 @@ final class Check {
         return x;
     }
 
+    static MeasureChoice equalHouse(int measures, int cost, int gain) {
+        MeasureChoice x = new MeasureChoice();
+        for (int m = 0; m < measures; m++) {
+            x.measure(cost, gain);
+        }
+        return x;
+    }
+
     /** Twelve measures, with the highest cost, gain and bonus everywhere. */
     static MeasureChoice greatestHouse() {
         MeasureChoice x = new MeasureChoice();
@@ -84,6 +132,29 @@ final class Check {
             }
         }
         return x;
+    }
+
+    static void budgets(MeasureChoice x, int... budgets) {
+        for (int year = 0; year < budgets.length; year++) {
+            x.year(year, budgets[year]);
+        }
+    }
+
+    /** The sets of the best plan over as many years as there are sets, and what it gains. */
+    static void plan(String name, MeasureChoice x, int gain, int... sets) {
+        int years = sets.length;
+        for (int k = 0; k < years; k++) {
+            same(name + ": plan(" + years + ", " + k + ")", x.plan(years, k), sets[k]);
+        }
+        same(name + ": planned(" + years + ")", x.planned(years), gain);
+    }
+
+    /** The whole frontier, and that there is no more of it. */
+    static void frontier(String name, MeasureChoice x, int... sets) {
+        for (int k = 0; k < sets.length; k++) {
+            same(name + ": frontier(" + k + ")", x.frontier(k), sets[k]);
+        }
+        same(name + ": frontier(" + sets.length + ")", x.frontier(sets.length), MeasureChoice.NONE);
     }
 
     static void end() {

@@ -4,25 +4,34 @@ import java.util.Random;
 
 /**
  * Long runs of calls, good and bad ones, each answer held against a slow model that follows the
- * document's words one by one. The numbers are small, so that equal costs and gains are frequent.
+ * document's words one by one. In half of the runs the numbers are small, so that equal costs and
+ * gains are frequent; in the others they stand at the bounds of the document.
  */
 public final class OracleTest {
     private static final int RUNS = 600;
     private static final int CALLS = 120;
     private static final int[] STRANGE = {Integer.MIN_VALUE, -5001, -1, 4, 5, 12, 4096, 5001, 10001,
         100001, 1000001, Integer.MAX_VALUE};
+    private static final int[] COSTS = {1, 2, 4999, 5000, 5001, 9999, 10000};
+    private static final int[] GAINS = {0, 1, 4999, 5000, 5001, 9999, 10000};
+    private static final int[] BONUSES = {-5000, -4999, -1, 0, 1, 4999, 5000};
+    private static final int[] BUDGETS = {0, 1, 9999, 10000, 10001, 15000, 20000, 59999, 60000, 119999,
+        120000, 500000, 999999, 1000000};
+    private static final int[] YEAR_BUDGETS = {0, 1, 4999, 5000, 9999, 10000, 10001, 20000, 100000};
 
     private final Random random;
     private final Model model = new Model();
     private final MeasureChoice choice = new MeasureChoice();
     private final int most;
+    private final boolean atBounds;
     private final String name;
 
     private OracleTest(int seed) {
         random = new Random(seed);
         name = "run " + seed + ": ";
         // Mostly small houses, since the model looks at all pairs of sets.
-        most = seed % 60 == 0 ? 12 : 2 + random.nextInt(6);
+        most = seed % 60 < 2 ? 12 : 2 + random.nextInt(6);
+        atBounds = seed % 2 == 1;
     }
 
     public static void main(String[] args) {
@@ -62,16 +71,33 @@ public final class OracleTest {
         return odd(random.nextInt(1 << model.count));
     }
 
+    private int either(int small, int[] bounds) {
+        return odd(atBounds ? bounds[random.nextInt(bounds.length)] : small);
+    }
+
     private int someCost() {
-        return odd(1 + random.nextInt(6));
+        return either(1 + random.nextInt(6), COSTS);
     }
 
     private int someGain() {
-        return odd(random.nextInt(8));
+        return either(random.nextInt(8), GAINS);
+    }
+
+    private int someBonus() {
+        return either(random.nextInt(13) - 6, BONUSES);
     }
 
     private int someBudget() {
-        return odd(random.nextInt(4 * model.count + 3));
+        return either(random.nextInt(4 * model.count + 3), BUDGETS);
+    }
+
+    private int someYearBudget() {
+        return either(random.nextInt(12), YEAR_BUDGETS);
+    }
+
+    /** Just what a set gains, or one beside it. */
+    private int someGainOfASet() {
+        return odd(model.gains(random.nextInt(1 << model.count)) + random.nextInt(3) - 1);
     }
 
     private void oneCall(int kind) {
@@ -83,13 +109,13 @@ public final class OracleTest {
             case 1, 2 -> change(a, someCost(), someGain());
             case 3, 4 -> exclude(a, b, on && random.nextBoolean());
             case 5, 6 -> needs(a, b, on && random.nextBoolean());
-            case 7, 8, 9 -> bonus(a, b, odd(random.nextInt(13) - 6));
-            case 10, 11, 12, 13 -> year(odd(random.nextInt(4)), odd(random.nextInt(12)));
+            case 7, 8, 9 -> bonus(a, b, someBonus());
+            case 10, 11, 12, 13 -> year(odd(random.nextInt(4)), someYearBudget());
             case 14 -> lawful(someSet());
             case 15 -> told(someSet(), odd(random.nextInt(2)));
             case 16 -> closure(a);
             case 17, 18 -> best(someBudget());
-            case 19 -> budget(odd(random.nextInt(30) - 3));
+            case 19 -> budget(someGainOfASet());
             case 20 -> worth(someBudget(), someBudget());
             case 21 -> frontier(odd(random.nextInt(8)));
             case 22 -> plan(odd(1 + random.nextInt(4)), odd(random.nextInt(4)));

@@ -19,21 +19,6 @@ public final class PlansTest {
         Check.end();
     }
 
-    private static void budgets(MeasureChoice x, int... budgets) {
-        for (int year = 0; year < budgets.length; year++) {
-            x.year(year, budgets[year]);
-        }
-    }
-
-    /** The sets of the best plan over as many years as there are sets, and what it gains. */
-    private static void plan(String name, MeasureChoice x, int gain, int... sets) {
-        int years = sets.length;
-        for (int k = 0; k < years; k++) {
-            Check.same(name + ": plan(" + years + ", " + k + ")", x.plan(years, k), sets[k]);
-        }
-        Check.same(name + ": planned(" + years + ")", x.planned(years), gain);
-    }
-
     private static void year() {
         MeasureChoice x = new MeasureChoice();
         for (int year = 0; year < 4; year++) {
@@ -71,106 +56,106 @@ public final class PlansTest {
 
     private static void whatIsLeftIsKept() {
         MeasureChoice x = Check.house(10, 20, 25, 30);
-        budgets(x, 12, 12, 10, 1);
-        plan("kept", x, 20, 1);
-        plan("kept", x, 40, 1, 1);
-        plan("kept", x, 60, 1, 1, 1);
-        plan("kept", x, 110, 1, 1, 1, 3);
-        budgets(x, 0, 9, 0, 1);
-        plan("late", x, 0, 0, 0, 0);
-        plan("late", x, 20, 0, 0, 0, 1);
+        Check.budgets(x, 12, 12, 10, 1);
+        Check.plan("kept", x, 20, 1);
+        Check.plan("kept", x, 40, 1, 1);
+        Check.plan("kept", x, 60, 1, 1, 1);
+        Check.plan("kept", x, 110, 1, 1, 1, 3);
+        Check.budgets(x, 0, 9, 0, 1);
+        Check.plan("late", x, 0, 0, 0, 0);
+        Check.plan("late", x, 20, 0, 0, 0, 1);
     }
 
     private static void laterYearsCount() {
         MeasureChoice x = Check.house(10, 20, 20, 50);
-        budgets(x, 10, 10, 0, 0);
-        plan("at once", x, 20, 1);
-        plan("to wait gains more", x, 50, 0, 2);
-        plan("to wait gains more", x, 100, 0, 2, 2);
+        Check.budgets(x, 10, 10, 0, 0);
+        Check.plan("at once", x, 20, 1);
+        Check.plan("to wait gains more", x, 50, 0, 2);
+        Check.plan("to wait gains more", x, 100, 0, 2, 2);
         x.change(1, 20, 40);
-        plan("equal gain: the one that spends less", x, 40, 1, 1);
-        plan("to wait gains more after three", x, 80, 0, 2, 2);
+        Check.plan("equal gain: the one that spends less", x, 40, 1, 1);
+        Check.plan("to wait gains more after three", x, 80, 0, 2, 2);
     }
 
     private static void spendsLeast() {
         MeasureChoice x = Check.house(9, 10, 8, 10, 3, 0);
         x.exclude(0, 1, true);
-        budgets(x, 100, 0);
-        plan("the cheaper one, and nothing for nothing", x, 20, 2, 2);
+        Check.budgets(x, 100, 0);
+        Check.plan("the cheaper one, and nothing for nothing", x, 20, 2, 2);
         x.exclude(0, 1, false);
         x.bonus(0, 1, -10);
-        plan("both gain no more", x, 20, 2, 2);
+        Check.plan("both gain no more", x, 20, 2, 2);
     }
 
     private static void leastSets() {
         MeasureChoice x = Check.house(10, 5, 10, 5, 10, 5);
-        budgets(x, 10, 10, 0, 10);
-        plan("of equal ones the least", x, 5, 1);
-        plan("of equal ones the least", x, 15, 1, 3);
-        plan("of equal ones the least", x, 25, 1, 3, 3);
-        plan("of equal ones the least", x, 40, 1, 3, 3, 7);
+        Check.budgets(x, 10, 10, 0, 10);
+        Check.plan("of equal ones the least", x, 5, 1);
+        Check.plan("of equal ones the least", x, 15, 1, 3);
+        Check.plan("of equal ones the least", x, 25, 1, 3, 3);
+        Check.plan("of equal ones the least", x, 40, 1, 3, 3, 7);
         MeasureChoice y = Check.house(5, 0, 5, 10, 5, 5, 5, 5);
-        budgets(y, 10, 5);
+        Check.budgets(y, 10, 5);
         y.needs(1, 0, true);
-        plan("the first year's set before the second one's", y, 25, 3, 7);
+        Check.plan("the first year's set before the second one's", y, 25, 3, 7);
         MeasureChoice z = Check.house(10, 0, 10, 10);
         z.bonus(0, 1, 10);
         z.needs(1, 0, true);
-        budgets(z, 10, 10);
-        plan("nothing in the first year is less", z, 20, 0, 3);
+        Check.budgets(z, 10, 10);
+        Check.plan("nothing in the first year is less", z, 20, 0, 3);
     }
 
     private static void lawfulEachYear() {
         MeasureChoice x = Check.house(10, 30, 10, 1, 5, 20);
-        budgets(x, 10, 10, 0, 100);
+        Check.budgets(x, 10, 10, 0, 100);
         x.needs(0, 1, true);
         x.exclude(0, 2, true);
-        plan("what is needed is there", x, 20, 4);
-        plan("what is needed is there", x, 41, 4, 6);
-        plan("what was bought stays", x, 63, 2, 3, 3);
-        plan("money alone does not free what is excluded", x, 94, 2, 3, 3, 3);
+        Check.plan("what is needed is there", x, 20, 4);
+        Check.plan("what is needed is there", x, 41, 4, 6);
+        Check.plan("what was bought stays", x, 63, 2, 3, 3);
+        Check.plan("money alone does not free what is excluded", x, 94, 2, 3, 3, 3);
         x.change(0, 10, 100);
-        plan("what excludes is not bought", x, 102, 2, 3);
+        Check.plan("what excludes is not bought", x, 102, 2, 3);
         x.needs(1, 0, true);
-        plan("a ring at once", x, 101, 0, 3);
+        Check.plan("a ring at once", x, 101, 0, 3);
     }
 
     private static void firstSixAlone() {
         MeasureChoice x = Check.house(1, 1, 1, 1, 1, 1, 1, 1, 1, 1, 1, 1);
-        budgets(x, 100000, 0, 0, 0);
-        plan("six", x, 24, 63, 63, 63, 63);
+        Check.budgets(x, 100000, 0, 0, 0);
+        Check.plan("six", x, 24, 63, 63, 63, 63);
         x.measure(1, 10000);
-        plan("a seventh counts nothing", x, 24, 63, 63, 63, 63);
+        Check.plan("a seventh counts nothing", x, 24, 63, 63, 63, 63);
         x.bonus(6, 0, 5000);
-        plan("nor does its bonus", x, 24, 63, 63, 63, 63);
+        Check.plan("nor does its bonus", x, 24, 63, 63, 63, 63);
         x.needs(6, 0, true);
         x.exclude(6, 0, true);
-        plan("nor what it excludes or needs", x, 24, 63, 63, 63, 63);
+        Check.plan("nor what it excludes or needs", x, 24, 63, 63, 63, 63);
         x.needs(3, 6, true);
-        plan("what needs it is out", x, 20, 55, 55, 55, 55);
+        Check.plan("what needs it is out", x, 20, 55, 55, 55, 55);
     }
 
     private static void badYearsForGoodOnes() {
         MeasureChoice x = Check.house(10, 0, 10, 100);
         x.bonus(0, 1, 50);
-        budgets(x, 10, 0, 10, 0);
-        plan("the better one first", x, 500, 2, 2, 3, 3);
+        Check.budgets(x, 10, 0, 10, 0);
+        Check.plan("the better one first", x, 500, 2, 2, 3, 3);
         MeasureChoice y = Check.house(10, 10, 10, 10, 10, 100);
         y.bonus(0, 1, -40);
         y.bonus(0, 2, -5);
         y.bonus(1, 2, 0);
-        budgets(y, 20, 0, 10, 0);
-        plan("no more than helps", y, 440, 6, 6, 6, 6);
+        Check.budgets(y, 20, 0, 10, 0);
+        Check.plan("no more than helps", y, 440, 6, 6, 6, 6);
     }
 
     private static void atTheEdges() {
         MeasureChoice x = Check.greatestHouse();
-        budgets(x, 59999, 1, 100000, 100000);
-        plan("all but one, then all", x, 505000, 31, 63, 63, 63);
-        budgets(x, 100000, 100000, 100000, 100000);
-        plan("the most of all", x, 540000, 63, 63, 63, 63);
+        Check.budgets(x, 59999, 1, 100000, 100000);
+        Check.plan("all but one, then all", x, 505000, 31, 63, 63, 63);
+        Check.budgets(x, 100000, 100000, 100000, 100000);
+        Check.plan("the most of all", x, 540000, 63, 63, 63, 63);
         x.exclude(0, 1, true);
-        plan("no purse pays what is excluded", x, 400000, 61, 61, 61, 61);
+        Check.plan("no purse pays what is excluded", x, 400000, 61, 61, 61, 61);
         x.exclude(0, 1, false);
         for (int m = 0; m < 12; m++) {
             x.change(m, 1, 0);
@@ -178,29 +163,29 @@ public final class PlansTest {
                 x.bonus(m, other, -5000);
             }
         }
-        plan("nothing is best", x, 0, 0, 0, 0, 0);
+        Check.plan("nothing is best", x, 0, 0, 0, 0, 0);
     }
 
     private static void followsChanges() {
         MeasureChoice x = Check.house(10, 5, 10, 4);
-        budgets(x, 10, 10);
-        plan("at first", x, 14, 1, 3);
+        Check.budgets(x, 10, 10);
+        Check.plan("at first", x, 14, 1, 3);
         x.change(1, 10, 6);
-        plan("after change", x, 17, 2, 3);
+        Check.plan("after change", x, 17, 2, 3);
         x.exclude(0, 1, true);
-        plan("after exclude", x, 12, 2, 2);
+        Check.plan("after exclude", x, 12, 2, 2);
         x.exclude(0, 1, false);
         x.bonus(0, 1, -100);
-        plan("after bonus", x, 12, 2, 2);
+        Check.plan("after bonus", x, 12, 2, 2);
         x.needs(1, 0, true);
-        plan("after needs", x, 10, 1, 1);
+        Check.plan("after needs", x, 10, 1, 1);
         x.year(0, 9);
-        plan("after year", x, 5, 0, 1);
+        Check.plan("after year", x, 5, 0, 1);
     }
 
     private static void plannedAlone() {
         MeasureChoice x = Check.house(10, 5, 10, 4);
-        budgets(x, 10, 10);
+        Check.budgets(x, 10, 10);
         Check.same("planned(2) before any plan", x.planned(2), 14);
         Check.same("planned(1) after planned(2)", x.planned(1), 5);
         x.change(0, 10, 3);
