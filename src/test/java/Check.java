@@ -14,7 +14,7 @@ final class Check {
         long ask();
     }
 
-    private static final long MOST_MILLISECONDS = 300000;
+    private static final long MOST_MILLISECONDS = 600000;
 
     private static int wrong = 0;
     private static String sentence = "";

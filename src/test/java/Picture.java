@@ -1,10 +1,11 @@
 /**
  * All that an object answers, as one text: objects of one state have one picture. The object is used
- * up by it, as some of its state is told only by calls that change it. A picture takes some 370 calls
+ * up by it, as some of its state is told only by calls that change it. A picture takes some 360 calls
  * at most, and an object is promised for 512.
  */
 final class Picture {
     private static final int[] BUDGETS = {0, 3, 5, 8, 10, 15, 18, 27, 120000, Integer.MAX_VALUE};
+    private static final int[] PLACES = {0, 1, 2, 3, 4, 5, 12};
     private static final int[] GAINS = {Integer.MIN_VALUE, 0, 1, 10, 25, 34, 450000};
 
     private final MeasureChoice x;
@@ -22,7 +23,7 @@ final class Picture {
         picture.plans();
         picture.pairs();
         picture.years();
-        picture.ask("next", () -> x.measure(1, 0));
+        picture.nextMeasure();
         return picture.text.toString();
     }
 
@@ -54,8 +55,7 @@ final class Picture {
         }
         ask("worth", () -> x.worth(0, 1000000));
         ask("worth", () -> x.worth(5, 10));
-        for (int i = 0; i <= 12; i++) {
-            int k = i;
+        for (int k : PLACES) {
             ask("frontier", () -> x.frontier(k));
         }
     }
@@ -93,6 +93,16 @@ final class Picture {
         for (int y = 0; y < 4; y++) {
             int year = y;
             ask("year", () -> x.year(year, 0));
+        }
+    }
+
+    /** What was kept for a measure ahead of its coming would show now. */
+    private void nextMeasure() {
+        ask("next", () -> x.measure(1, 0));
+        if (count < 12) {
+            ask("next closure", () -> x.closure(count));
+            ask("next lawful", () -> x.lawful((2 << count) - 1) ? 1 : 0);
+            ask("next gain", () -> x.told((2 << count) - 1, 1));
         }
     }
 }

@@ -6,7 +6,8 @@ import java.util.function.Supplier;
  * 'In all calls illegal argument: a number is out of its bounds, there is no such measure. Illegal
  * state: as told. Of several exceptions the one named first is thrown; a call that throws changes
  * nothing.' Every wrong call is made on objects with no, one, some and all measures; then the object
- * must answer all calls as one on which the wrong call was never made.
+ * must answer all calls as one on which no wrong call was ever made. A picture is taken after some
+ * wrong calls together; so of calls that could undo each other the one that sets something is last.
  */
 public final class RefusedCallsTest {
     private static final int LEAST = Integer.MIN_VALUE;
@@ -20,9 +21,16 @@ public final class RefusedCallsTest {
     private static final int[] WRONG_BUDGETS = {LEAST, -100000, -1, 100001, 1000000, MOST};
     private static final int[] BELOW_ZERO = {LEAST, LEAST + 1, -4096, -1};
 
+    /** A picture takes up to some 360 of the 512 calls for which an object is promised. */
+    private static final int MOST_REFUSED = 60;
+
     private final int count;
     private final Supplier<MeasureChoice> maker;
     private final String due;
+    private MeasureChoice fresh;
+    /** What an object has worked out for earlier calls must not change either. */
+    private MeasureChoice asked;
+    private int refused;
 
     private RefusedCallsTest(int count, Supplier<MeasureChoice> maker) {
         this.count = count;
@@ -73,19 +81,34 @@ public final class RefusedCallsTest {
     }
 
     private void sentence(String words, Check.Call test) {
-        Check.sentence(words + ", with " + count + " measures", test);
+        Check.sentence(words + ", with " + count + " measures", () -> {
+            startAnew();
+            test.run();
+            compare();
+        });
+    }
+
+    private void startAnew() {
+        fresh = maker.get();
+        asked = maker.get();
+        asked.best(20);
+        asked.planned(3);
+        refused = 0;
+    }
+
+    private void compare() {
+        Check.same("the object after the wrong calls", Picture.of(fresh), due);
+        Check.same("the asked object after the wrong calls", Picture.of(asked), due);
     }
 
     private void refused(String call, Consumer<MeasureChoice> made) {
-        MeasureChoice x = maker.get();
-        Check.illegalArgument(call, () -> made.accept(x));
-        Check.same("the object after " + call, Picture.of(x), due);
-        // What an object has worked out for earlier calls must not change either.
-        MeasureChoice y = maker.get();
-        y.best(20);
-        y.planned(3);
-        Check.illegalArgument(call, () -> made.accept(y));
-        Check.same("the asked object after " + call, Picture.of(y), due);
+        Check.illegalArgument(call, () -> made.accept(fresh));
+        Check.illegalArgument(call, () -> made.accept(asked));
+        refused++;
+        if (refused == MOST_REFUSED) {
+            compare();
+            startAnew();
+        }
     }
 
     /** Tries all numbers that are no measure's: those that never are, and the next ones to come. */
@@ -107,10 +130,8 @@ public final class RefusedCallsTest {
             refused("measure(5, " + gain + ")", x -> x.measure(5, gain));
         }
         if (count == 12) {
-            MeasureChoice x = maker.get();
-            Check.illegalState("measure(1, 0)", () -> x.measure(1, 0));
-            Check.illegalState("measure(10000, 10000)", () -> x.measure(10000, 10000));
-            Check.same("the object after a thirteenth", Picture.of(x), due);
+            Check.illegalState("measure(1, 0)", () -> fresh.measure(1, 0));
+            Check.illegalState("measure(10000, 10000)", () -> asked.measure(10000, 10000));
         }
     }
 
@@ -129,31 +150,31 @@ public final class RefusedCallsTest {
 
     private void exclude() {
         eachWrongMeasure(m -> {
-            refused("exclude(" + m + ", 0, true)", x -> x.exclude(m, 0, true));
-            refused("exclude(0, " + m + ", true)", x -> x.exclude(0, m, true));
             refused("exclude(" + m + ", 0, false)", x -> x.exclude(m, 0, false));
             refused("exclude(2, " + m + ", false)", x -> x.exclude(2, m, false));
+            refused("exclude(" + m + ", 0, true)", x -> x.exclude(m, 0, true));
+            refused("exclude(0, " + m + ", true)", x -> x.exclude(0, m, true));
             refused("exclude(" + m + ", " + m + ", true)", x -> x.exclude(m, m, true));
         });
         for (int m = 0; m < count; m++) {
             int one = m;
-            refused("exclude(" + m + ", " + m + ", true)", x -> x.exclude(one, one, true));
             refused("exclude(" + m + ", " + m + ", false)", x -> x.exclude(one, one, false));
+            refused("exclude(" + m + ", " + m + ", true)", x -> x.exclude(one, one, true));
         }
     }
 
     private void needs() {
         eachWrongMeasure(m -> {
-            refused("needs(" + m + ", 0, true)", x -> x.needs(m, 0, true));
-            refused("needs(0, " + m + ", true)", x -> x.needs(0, m, true));
             refused("needs(" + m + ", 1, false)", x -> x.needs(m, 1, false));
             refused("needs(1, " + m + ", false)", x -> x.needs(1, m, false));
+            refused("needs(" + m + ", 0, true)", x -> x.needs(m, 0, true));
+            refused("needs(0, " + m + ", true)", x -> x.needs(0, m, true));
             refused("needs(" + m + ", " + m + ", true)", x -> x.needs(m, m, true));
         });
         for (int m = 0; m < count; m++) {
             int one = m;
-            refused("needs(" + m + ", " + m + ", true)", x -> x.needs(one, one, true));
             refused("needs(" + m + ", " + m + ", false)", x -> x.needs(one, one, false));
+            refused("needs(" + m + ", " + m + ", true)", x -> x.needs(one, one, true));
         }
     }
 
@@ -165,8 +186,8 @@ public final class RefusedCallsTest {
         });
         for (int m = 0; m < count; m++) {
             int one = m;
-            refused("bonus(" + m + ", " + m + ", 7)", x -> x.bonus(one, one, 7));
             refused("bonus(" + m + ", " + m + ", 0)", x -> x.bonus(one, one, 0));
+            refused("bonus(" + m + ", " + m + ", 7)", x -> x.bonus(one, one, 7));
         }
         for (int amount : WRONG_BONUSES) {
             refused("bonus(0, 1, " + amount + ")", x -> x.bonus(0, 1, amount));
