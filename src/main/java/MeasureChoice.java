@@ -352,7 +352,7 @@ public final class MeasureChoice {
         private void addSteps(int size, int added) {
             int plain = size - 1;
             int raised = size - 1;
-            for (int at = 2 * size - 1; raised >= 0 && plain >= raised; at--) {
+            for (int at = 2 * size - 1; at >= 0 && raised >= 0 && plain >= 0; at--) {
                 int step = steps[raised] + added;
                 if (step > steps[plain]) {
                     steps[at] = step;

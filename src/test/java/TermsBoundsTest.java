@@ -31,6 +31,7 @@ public final class TermsBoundsTest {
         Check.sentence("BEATEN: more gain, as much cost", TermsBoundsTest::beatenByBetter);
         Check.sentence("BEATEN: but not both the same", TermsBoundsTest::notBeatenByTheSame);
         Check.sentence("BEATEN: more gain for a higher cost", TermsBoundsTest::notBeatenByDearer);
+        Check.sentence("NONE = -1: There is none", TermsBoundsTest::thereIsNone);
         Check.sentence("at most 512 calls", TermsBoundsTest::allCallsOfAnObject);
         Check.end();
     }
@@ -375,6 +376,13 @@ public final class TermsBoundsTest {
         Check.frontier("the same gain for more", x, 0, 1);
         x.change(1, 6, 9);
         Check.frontier("less gain for more", x, 0, 1);
+    }
+
+    private static void thereIsNone() {
+        MeasureChoice x = Check.house(5, 10);
+        Check.same("NONE", MeasureChoice.NONE, -1);
+        Check.same("budget(11)", x.budget(11), -1);
+        Check.same("frontier(2)", x.frontier(2), -1);
     }
 
     /** 12 calls make measures, 4 set years, and 62 rounds of 8 calls change and ask: 512 in all. */
