@@ -1,7 +1,7 @@
 /**
- * All that an object answers, as one text: objects of one state have one picture. The object is used
- * up by it, as some of its state is told only by calls that change it. A picture takes some 360 calls
- * at most, and an object is promised for 512.
+ * An object's whole state and a choice of its answers, as one text. The object is used up by it, as
+ * some of its state is told only by calls that change it. A picture takes some 360 calls at most, and
+ * an object is promised for 512.
  */
 final class Picture {
     private static final int[] BUDGETS = {0, 3, 5, 8, 10, 15, 18, 27, 120000, Integer.MAX_VALUE};
