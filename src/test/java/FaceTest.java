@@ -1,15 +1,22 @@
+import java.io.IOException;
 import java.lang.reflect.Constructor;
 import java.lang.reflect.Field;
 import java.lang.reflect.Method;
 import java.lang.reflect.Modifier;
+import java.nio.file.Files;
+import java.nio.file.Path;
+import java.util.ArrayList;
 import java.util.Arrays;
 import java.util.HashSet;
+import java.util.List;
 import java.util.Set;
 import java.util.TreeSet;
 
 /** The public face is the one of the document, and there is nothing beside it. */
 public final class FaceTest {
     private static final String ARGUMENT = " throws IllegalArgumentException";
+    private static final Path DOCUMENT = Path.of("..", "shared", "DOC.md");
+    private static final Path SOURCE = Path.of("src", "main", "java", "MeasureChoice.java");
     private static final Set<String> METHODS = Set.of(
             "int measure(int, int)" + ARGUMENT + ", IllegalStateException",
             "void change(int, int, int)" + ARGUMENT,
@@ -27,12 +34,39 @@ public final class FaceTest {
             "int plan(int, int)" + ARGUMENT,
             "int planned(int)" + ARGUMENT);
 
-    public static void main(String[] args) {
+    public static void main(String[] args) throws IOException {
         Check.same("the class is", MeasureChoice.class.getModifiers(), Modifier.PUBLIC | Modifier.FINAL);
         constructors();
         fields();
         methods();
+        wordByWord();
+        headings();
         Check.end();
+    }
+
+    /** The names of parameters and the order of the calls too, which the compiled class lacks. */
+    private static void wordByWord() throws IOException {
+        List<String> due = publicLines(DOCUMENT);
+        Check.same("lines of the document's face", due.size(), METHODS.size() + 3);
+        Check.same("the public lines", String.join("\n", publicLines(SOURCE)), String.join("\n", due));
+    }
+
+    private static List<String> publicLines(Path file) throws IOException {
+        List<String> found = new ArrayList<>();
+        for (String line : Files.readAllLines(file)) {
+            if (line.strip().startsWith("public ")) {
+                found.add(line.strip().replaceAll(" ?[;{]$", ""));
+            }
+        }
+        return found;
+    }
+
+    /** What the interface says ahead of a group of calls. */
+    private static void headings() throws IOException {
+        String text = Files.readString(SOURCE);
+        Check.holds("---- sets, ahead of lawful",
+                text.contains("// ---- sets\n\n    public boolean lawful("));
+        Check.holds("---- plans, ahead of year", text.contains("// ---- plans\n\n    public int year("));
     }
 
     private static void constructors() {
